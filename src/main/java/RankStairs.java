@@ -957,6 +957,7 @@ public final class RankStairs {
     private static final class Dust {
         static final int MOST_MORE = 40;
         private static final int MOST_SEEN = 6;
+        private static final int MOST_BY_A_CLIMB = 3;
         int seen = 0;
         /** Of each LODGER, the FLOORS that he can have. */
         final int[] floorBits = new int[MOST_LODGERS];
@@ -985,14 +986,14 @@ public final class RankStairs {
             return searchFrom(0);
         }
 
+        /** The LODGERS from p on; WEAR of the trial is as it is ahead of him. */
         private int searchFrom(int p) {
-            if (p >= trial.lodgers || p >= MOST_LODGERS) {
-                return isAllSo(p) ? 1 : 0;
-            }
-            if (isTooMuch(p)) {
+            if (!canBeSo(p)) {
                 return 0;
             }
-            System.arraycopy(wearsAt[p], 0, trial.wears, 0, MOST_STEPS);
+            if (p >= trial.lodgers || p >= MOST_LODGERS) {
+                return 1;
+            }
             int[] paths = pathsAt[p];
             Climber.findPaths(trial.treadBits(p), trial.reachOf(p), trial.steps - 1, paths);
             int all = 0;
@@ -1021,24 +1022,13 @@ public final class RankStairs {
             return searchFrom(p + 1);
         }
 
-        private int moreThanSeen(int level, int k) {
-            int i = seenSteps[k];
-            return wearsAt[level][i] - wearsAt[0][i] - seenMore[k];
-        }
-
-        /** WEAR never gets less: what is too much by now stays so. */
-        private boolean isTooMuch(int level) {
+        /** WEAR never gets less, and by no CLIMB more than so much; behind all, nothing may be missing. */
+        private boolean canBeSo(int level) {
+            int most = MOST_BY_A_CLIMB * (trial.lodgers - level);
             for (int k = 0; k < seen; k++) {
-                if (moreThanSeen(level, k) > 0) {
-                    return true;
-                }
-            }
-            return false;
-        }
-
-        private boolean isAllSo(int level) {
-            for (int k = 0; k < seen; k++) {
-                if (moreThanSeen(level, k) != 0) {
+                int i = seenSteps[k];
+                int missing = seenMore[k] - (wearsAt[level][i] - wearsAt[0][i]);
+                if (missing < 0 || missing > most) {
                     return false;
                 }
             }

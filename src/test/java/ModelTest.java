@@ -61,6 +61,8 @@ public final class ModelTest {
                 same = feedText();
             } else if (random.nextInt(40) == 0) {
                 same = fillSheet();
+            } else if (random.nextInt(40) == 0 && !isDear()) {
+                same = seeDust();
             } else {
                 Method m = face.get(random.nextInt(face.size()));
                 // All FLOORS of a large house are dear to the model.
@@ -135,6 +137,24 @@ public final class ModelTest {
         for (int i = 0; i < n && same; i++) {
             int v = random.nextInt(10) == 0 ? random.nextInt() : random.nextInt(Math.max(1, model.now.lodgers.size()));
             same = call(lay, k, i, v + (random.nextInt(4) == 0 ? 1 << 8 * random.nextInt(4) : 0));
+        }
+        return same;
+    }
+
+    /** What is SEEN of a DAY with FLOORS drawn at random, so that something FITS. */
+    private boolean seeDust() throws ReflectiveOperationException {
+        Method see = RankStairs.class.getMethod("see", int.class, int.class);
+        Model.World w = model.now.copy();
+        w.lodgers.forEach(l -> l.floor = random.nextInt(w.steps.size()));
+        w.goDay();
+        boolean same = call(RankStairs.class.getMethod("forget", int.class), 0);
+        for (int n = w.steps.isEmpty() ? 0 : random.nextInt(6); n > 0 && same; n--) {
+            int i = random.nextInt(w.steps.size());
+            same = call(see, i, w.steps.get(i).wear - model.now.steps.get(i).wear);
+        }
+        same = same && call(RankStairs.class.getMethod("fits"));
+        for (int p = 0; p < w.lodgers.size() && same; p++) {
+            same = call(RankStairs.class.getMethod("floors", int.class), p);
         }
         return same;
     }

@@ -136,6 +136,40 @@ public final class PromisesTest {
         due(4, put(x, "lodger 1 0 0 0;lodger 1 0 0 0;hold 99;wood 60 99;"));
         due(-10 - 90, put(x, ten + "wood 1 1;"));
         due(5, x.fault());
+        // Nothing of what was told ahead, or tried since, is left.
+        x = told("gap 3;hold 9;");
+        x.day(3);
+        x.ahead(1, 0);
+        due(1, put(x, "iron 0 0;"));
+        due(1, x.rule(2));
+        due(30, x.rule(3));
+        due(0, x.rule(4));
+        smallAfterLarge();
+    }
+
+    private static void smallAfterLarge() {
+        RankStairs x = told("wood 9 31;wood 9 31;wood 9 31;wood 9 31;iron 0 0;"
+            + "lodger 4 0 0 4;lodger 4 0 0 0;lodger 4 0 0 4;lodger 4 0 0 4;");
+        due(4, x.year());
+        x.law(1, 99);
+        due(15, x.homes());
+        due(2, put(x, "wood 0 9;lodger 1 0 0 0;"));
+        due(0, x.count(4));
+        due(9, x.count(5));
+        due(1, x.count(6));
+        due(1, x.homes());
+        due(1, x.must(0));
+        due(10, x.hold(0));
+        due(0, x.ahead(1, 1));
+        due(11, x.breaks(0));
+        due(0, x.breaks(1));
+        due(1, x.mean(0, 0));
+        due(1, x.lodge(0));
+        due(1, x.lodge(1));
+        due(NONE, x.best(0));
+        due(1, x.fits());
+        due(0, x.year());
+        due(1, x.day(1));
     }
 
     private static void fault() {
@@ -145,6 +179,14 @@ public final class PromisesTest {
         refused("wood 61 100;", 3, 5);
         refused("wood\t1 1;", 1, 4);
         refused("woods 1 1;", 2, 0);
+        refused("food 1 1;", 2, 0);
+        refused("az;", 2, 0);
+        refused("stone 61 1;", 3, 6);
+        refused("iron 61 1;", 3, 5);
+        refused("landing 61 1;", 3, 8);
+        refused("{", 1, 0);
+        refused("gap :", 1, 4);
+        refused("gap /", 1, 4);
         refused("wood 1 1;;", 2, 9);
         refused("12", 2, 0);
         refused("wood ; 1;", 2, 5);
@@ -397,6 +439,14 @@ public final class PromisesTest {
         x.wear(1, 4);
         due(4, x.smooth(0, 0));
         due(2, x.smooth(0, 1));
+        // The STEP between is of too high a RANK; the first is too worn to be passed over unseen.
+        x = told("iron 0 9;wood 30 0;iron 0 2;lodger 2 0 0 2;lodger 3 0 0 2;");
+        due(9, x.smooth(0, 0));
+        due(2, x.smooth(0, 1));
+        due(2, x.smooth(1, 0));
+        due(1, x.smooth(1, 1));
+        x = told("iron 0 0;lodger 1 0 0 0;");
+        due(0, x.smooth(0, 0));
     }
 
     private static void homes() {
@@ -415,6 +465,7 @@ public final class PromisesTest {
         for (int i = 0; i < 7; i++) {
             due(want[i], x.must(i));
         }
+        due(1, told("iron 0 0;iron 0 0;lodger 1 0 0 1;lodger 2 0 0 1;").must(0));
         due(BAD, x.must(7));
         due(BAD, x.must(-1));
     }
@@ -554,6 +605,9 @@ public final class PromisesTest {
         due(1, new RankStairs().hold(60));
         x = told("iron 0 98;");
         due(99, x.hold(60));
+        x = told("stone 0 97;lodger 1 0 0 0;");
+        due(99, x.hold(1));
+        due(NONE, x.hold(2));
         x.wear(0, 99);
         due(NONE, x.hold(0));
         // By a HOLD under what there is all would be BROKEN now.
@@ -600,10 +654,10 @@ public final class PromisesTest {
         due(BAD, x.lodge(-1));
         due(3, x.lodger(0, 3));
         // All are alike: as it is, then by whose FLOORS are first.
-        x = told("iron 0 0;iron 0 0;lodger 2 0 0 1;lodger 2 0 0 0;lodger 2 0 0 1;");
+        x = told("iron 0 0;iron 0 0;lodger 2 0 0 1;lodger 2 0 0 0;");
+        due(2, x.lodge(1));
         due(1, x.lodge(10));
         due(0, x.lodge(11));
-        due(1, x.lodge(12));
         // More who have a CLIMB, though by more STEPS.
         x = told("iron 0 0;iron 0 0;wood 30 0;lodger 1 0 0 0;lodger 3 3 0 1;lodger 3 0 0 2;gap 0;");
         due(3, x.lodge(0));
@@ -648,6 +702,13 @@ public final class PromisesTest {
         x.wear(0, 30);
         due(0, x.odds(1, 0, 0));
         due(1, x.odds(1, 0, 1));
+    }
+
+    private static void oddsOverAGap() {
+        RankStairs x = told("iron 0 0;wood 30 0;iron 0 0;iron 0 0;lodger 2 0 0 3;");
+        // 0, 2 and 3 must all be in: 1/8.
+        due(1, x.odds(5, 0, 0));
+        due(8, x.odds(5, 0, 1));
     }
 
     private static void mean() {
@@ -729,6 +790,31 @@ public final class PromisesTest {
         due(1, x.fits());
     }
 
+    private static void fitsOfFour() {
+        RankStairs x = told("wood 0 0;wood 0 0;lodger 2 0 0 0;lodger 2 0 0 0;lodger 2 0 0 0;lodger 2 0 0 0;");
+        due(16, x.fits());
+        // Each treads his FLOOR alone: two of four at 0.
+        x.see(0, 4);
+        due(6, x.fits());
+        x.see(1, 4);
+        due(6, x.fits());
+        for (int p = 0; p < 4; p++) {
+            due(3, x.floors(p));
+        }
+        x.forget(0);
+        x.see(1, 8);
+        due(1, x.fits());
+        due(2, x.floors(3));
+        // BROKEN by the first, it is out for those behind: then any FLOOR is as good.
+        x = told("wood 0 0;wood 0 0;lodger 1 0 0 0;lodger 1 0 0 0;lodger 1 0 0 0;hold 2;");
+        x.see(0, 2);
+        due(8, x.fits());
+        x.see(1, 0);
+        due(4, x.fits());
+        due(1, x.floors(0));
+        due(3, x.floors(1));
+    }
+
     private static void floors() {
         RankStairs x = told("wood 0 0;stone 0 0;wood 0 9;lodger 1 0 0 0;lodger 3 1 9 0;hold 9;");
         due(7, x.floors(0));
@@ -758,6 +844,12 @@ public final class PromisesTest {
         due(1, x.drift(1, 1, 0));
         due(2, x.drift(1, 2, 0));
         due(2, x.drift(1, 3, 0));
+        // From 0, modulo 2: 0, 0, 0, 1, 0; from -7: 0, 1, 1, 1, 1, 0.
+        x.law(1, 99);
+        due(3, x.drift(0, 4, 0));
+        due(4, x.drift(0, 5, 0));
+        due(1, x.drift(-7, 5, 0));
+        due(2, x.drift(-7, 6, 0));
         // Modulo 4: 2, 2, 1.
         x = told("wood 0 0;iron 0 99;lodger 1 0 0 1;lodger 1 0 0 0;lodger 1 0 0 1;lodger 1 0 0 1;hold 2;");
         due(0, x.drift(1, 2, 0));
@@ -980,11 +1072,11 @@ public final class PromisesTest {
             case 28: hold(); break;
             case 29: best(); break;
             case 30: lodge(); break;
-            case 31: odds(); break;
+            case 31: odds(); oddsOverAGap(); break;
             case 32: mean(); break;
             case 33: see(); break;
             case 34: forget(); break;
-            case 35: fits(); break;
+            case 35: fits(); fitsOfFour(); break;
             case 36: floors(); break;
             case 37: drift(); break;
             case 38: keep(); break;
