@@ -99,6 +99,23 @@ public final class PromisesTest {
         due(1, x.text());
         due(2, x.rule(2));
         due(0, x.end(0));
+        // What is cut off is not read.
+        for (char c : "gap 12".toCharArray()) {
+            x.feed(c);
+        }
+        x.end(5);
+        due(-15, x.text());
+        due(2, x.fault());
+    }
+
+    /** THE TAPE is full to its last byte, in every kind of TOKEN and in blanks. */
+    private static void textToTheLastByte() {
+        String blanks = " ".repeat(160);
+        String[] last = {"", "gap 1;", "hold", "gap 12", "gap 123", "gap 1", "?"};
+        int[] want = {0, 1, -170, -168, -167, -170, -169};
+        for (int k = 0; k < last.length; k++) {
+            due(want[k], put(new RankStairs(), blanks.substring(last[k].length()) + last[k]));
+        }
     }
 
     private static void text() {
@@ -180,7 +197,7 @@ public final class PromisesTest {
         refused("wood\t1 1;", 1, 4);
         refused("woods 1 1;", 2, 0);
         refused("food 1 1;", 2, 0);
-        refused("az;", 2, 0);
+        refused("z", 2, 0);
         refused("stone 61 1;", 3, 6);
         refused("iron 61 1;", 3, 5);
         refused("landing 61 1;", 3, 8);
@@ -1045,7 +1062,7 @@ public final class PromisesTest {
             case 1: newObject(); break;
             case 2: feed(); break;
             case 3: end(); break;
-            case 4: text(); break;
+            case 4: text(); textToTheLastByte(); break;
             case 5: fault(); break;
             case 6: rule(); break;
             case 7: step(); break;
