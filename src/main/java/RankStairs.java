@@ -489,10 +489,10 @@ public final class RankStairs {
         }
         Sheet row = sheets[k];
         trial.copyFrom(now);
-        int found = row.faultAs(lane);
+        int found = 0;
         int did = 0;
         while (did < n && found == 0) {
-            found = row.faultAt(f + did);
+            found = row.faultAs(lane, f + did);
             if (found == 0) {
                 int p = row.cells[f + did];
                 if (!isLodger(p) || !climber.goes(trial, p)) {
@@ -1058,9 +1058,9 @@ public final class RankStairs {
             Arrays.fill(cells, 0);
         }
 
-        /** What the machine finds when the row is taken as of a lane: nothing is of any. */
-        int faultAs(int lane) {
-            return isNothing() || itsLane == lane ? 0 : CAST;
+        /** What the machine finds when a CELL is read of the row taken as of a lane: nothing is of any. */
+        int faultAs(int lane, int i) {
+            return isNothing() || itsLane == lane ? faultAt(i) : CAST;
         }
 
         int faultAt(int i) {

@@ -826,12 +826,14 @@ final class Model {
         }
         World w = now.copy();
         Sheet s = sheets[k];
-        int found = s != null && s.lane != lane ? 3 : 0;
+        int found = 0;
         int did = 0;
         for (int i = 0; i < n && found == 0; i++) {
             long at = (long) f + i;
             if (s == null) {
                 found = 1;
+            } else if (s.lane != lane) {
+                found = 3;
             } else if (at < 0 || at >= s.cells.length) {
                 found = 2;
             } else {

@@ -1035,6 +1035,23 @@ public final class PromisesTest {
         x.lay(2, 0, 0);
         x.read(2, 2, 0, 1);
         due(0, x.torn());
+        noFaultOfNone(x);
+    }
+
+    /** A read of 0 LODGERS meets none at whom the machine could refuse, and clears what was found ahead of it. */
+    private static void noFaultOfNone(RankStairs x) {
+        int[][] reads = {{0, 0, 0}, {0, 1, -1}, {2, 2, 0}, {2, 2, 1}, {2, 2, -1}, {2, 2, HIGH}, {2, 0, 0}, {2, 1, 9}};
+        for (int[] r : reads) {
+            x.read(2, 1, 0, 1);
+            due(3, x.torn());
+            due(0, x.read(r[0], r[1], r[2], 0));
+            due(0, x.torn());
+        }
+        due(0, x.read(2, 2, 1, 1));
+        due(2, x.torn());
+        due(BAD, x.read(2, 3, 0, 0));
+        due(BAD, x.read(4, 2, 0, 0));
+        due(2, x.torn());
     }
 
     private static void count() {
