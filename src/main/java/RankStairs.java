@@ -491,12 +491,13 @@ public final class RankStairs {
         trial.copyFrom(now);
         int found = 0;
         int did = 0;
-        while (did < n && found == 0) {
-            found = row.faultAs(lane, f + did);
+        // A FAULT is met only where a LODGER is read: a read of none has nothing that could be refused.
+        for (int i = 0; i < n && found == 0; i++) {
+            found = row.faultAs(lane, f + i);
             if (found == 0) {
-                int p = row.cells[f + did];
+                int p = row.cells[f + i];
                 if (!isLodger(p) || !climber.goes(trial, p)) {
-                    return -20 - did;
+                    return -20 - i;
                 }
                 did++;
             }
