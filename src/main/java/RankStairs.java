@@ -270,7 +270,7 @@ public final class RankStairs {
         int whole = ~now.brokenBits();
         trial.copyFrom(now);
         for (int d = 1; d <= MOST_DAYS; d++) {
-            climber.goDay(trial);
+            climber.goDays(trial, 1);
             int more = trial.brokenBits() & whole;
             if (more != 0) {
                 return what == 0 ? d : Integer.numberOfTrailingZeros(more);
@@ -288,7 +288,7 @@ public final class RankStairs {
             if (!trial.getsHome(p)) {
                 return d;
             }
-            climber.goDay(trial);
+            climber.goDays(trial, 1);
         }
         return NONE;
     }
@@ -832,21 +832,15 @@ public final class RankStairs {
             return path != 0;
         }
 
-        int goDay(House house) {
-            int made = 0;
-            for (int p = 0; p < house.lodgers; p++) {
-                if (goes(house, p)) {
-                    made++;
-                }
-            }
-            house.dayNumber++;
-            return made;
-        }
-
         int goDays(House house, int n) {
             int made = 0;
             for (int d = 0; d < n; d++) {
-                made += goDay(house);
+                for (int p = 0; p < house.lodgers; p++) {
+                    if (goes(house, p)) {
+                        made++;
+                    }
+                }
+                house.dayNumber++;
             }
             return made;
         }

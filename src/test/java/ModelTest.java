@@ -11,8 +11,11 @@ import java.util.TreeMap;
 
 /** Runs of calls drawn by a seed, each answer held against that of the plain Model. */
 public final class ModelTest {
-    private static final int RUNS = 1500;
-    private static final int CALLS = 300;
+    private static final int RUNS = 2000;
+    /** What an object answers behind so many calls is free. */
+    private static final int MOST_CALLS = 512;
+    /** A text takes most: that of a full TAPE. */
+    private static final int MOST_AT_ONCE = 164;
     private static final String[] KINDS = {"wood", "stone", "iron", "landing"};
     private static final int[] ODD = {-1, -2, 10, 11, 12, 41, 61, 100, 128, 1000, Integer.MIN_VALUE, Integer.MAX_VALUE};
     /** Of each call, what its numbers are: STEP, LODGER, a question, DAYS, YEARS, ..; a figure: below it. */
@@ -27,6 +30,7 @@ public final class ModelTest {
     private final RankStairs program = new RankStairs();
     private final Model model = new Model();
     private final List<String> log = new ArrayList<>();
+    private int calls = 0;
     /** How often each call had an answer that is no refusal. */
     private static final Map<String, Integer> answered = new TreeMap<>();
 
@@ -55,9 +59,9 @@ public final class ModelTest {
     }
 
     private void go(List<Method> face) throws ReflectiveOperationException {
-        for (int t = 0; t < CALLS; t++) {
+        while (calls <= MOST_CALLS - MOST_AT_ONCE) {
             boolean same;
-            if (t == 0 || random.nextInt(60) == 0) {
+            if (calls == 0 || random.nextInt(60) == 0) {
                 same = feedText();
             } else if (random.nextInt(40) == 0) {
                 same = fillSheet();
@@ -110,6 +114,7 @@ public final class ModelTest {
     }
 
     private boolean call(Method m, Object... a) throws ReflectiveOperationException {
+        calls++;
         String asked = m.getName() + Arrays.toString(a);
         long want = ask(Model.class.getDeclaredMethod(m.getName(), m.getParameterTypes()), model, a);
         long got;
@@ -166,6 +171,7 @@ public final class ModelTest {
         }
         log.add("to be fed: " + text);
         for (int i = 0; i < text.length(); i++) {
+            calls++;
             if (program.feed(text.charAt(i)) != model.feed(text.charAt(i))) {
                 log.add("feed differs at " + i);
                 return false;
