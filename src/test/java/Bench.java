@@ -1,19 +1,18 @@
 import java.io.IOException;
 import java.nio.file.Files;
 import java.nio.file.Path;
+import java.util.BitSet;
 import java.util.Map;
-import java.util.Set;
 import java.util.TreeMap;
-import java.util.TreeSet;
 
 /** What the boundary tests share: the sentence of the document that is tried, and the answers that are due by it. */
 final class Bench {
     static final int BAD = -1, STATE = -2, FULL = -3, NONE = -4;
     static final int LOW = Integer.MIN_VALUE, HIGH = Integer.MAX_VALUE;
-    static final int PROMISES = 44;
     private static final Path DOCUMENT = Path.of("../shared/DOC.md");
     private static final Map<String, String> sections = readSections();
-    private static final Set<String> quoted = new TreeSet<>();
+    /** Of each part of the document, which of its signs were quoted. */
+    private static final Map<String, BitSet> quoted = new TreeMap<>();
     private static String sentence = "";
     private static int sentences = 0;
     private static int checks = 0;
@@ -22,13 +21,15 @@ final class Bench {
     private Bench() {
     }
 
-    /** The document's parts by their headings, each in one line; a promise by its number alone. */
+    /** The document's parts by their headings, each in one line without its marks; a promise by its number alone. */
     private static Map<String, String> readSections() {
         Map<String, String> parts = new TreeMap<>();
         try {
             for (String part : Files.readString(DOCUMENT).split("(?m)^## ")) {
-                String heading = part.split("\n", 2)[0];
-                parts.put(heading.split(":")[0], part.replaceAll("\\s+", " "));
+                String[] headed = part.split("\n", 2);
+                String body = headed[headed.length - 1].replaceAll("```\\w*|======== \\d|Ahead of the calls.*", "");
+                String said = body.trim().replaceFirst("^`[^`]*`: ", "").replaceAll("\\s+", " ");
+                parts.put(headed[0].split(":")[0].trim(), said);
             }
         } catch (IOException e) {
             System.out.println("no document at " + DOCUMENT + ": its sentences are not looked up");
@@ -50,8 +51,10 @@ final class Bench {
     static void quote(String section, String words) {
         sentence = section + ": " + words;
         sentences++;
-        quoted.add(section);
-        if (!sections.isEmpty() && !sections.getOrDefault(section, "").contains(words)) {
+        int at = sections.getOrDefault(section, "").indexOf(words);
+        if (at >= 0) {
+            quoted.computeIfAbsent(section, k -> new BitSet()).set(at, at + words.length());
+        } else if (!sections.isEmpty()) {
             complain("the document does not say so");
         }
     }
@@ -106,15 +109,28 @@ final class Bench {
         due(fault, x.fault());
     }
 
-    /** Whether all was as due, and every promise has a sentence that was tried. */
+    /** Whether all was as due, and all that the terms and the promises say was tried. */
     static boolean ends() {
-        for (int number = 1; number <= PROMISES; number++) {
-            if (!quoted.contains("Promise " + number)) {
-                wrong++;
-                System.out.println("no sentence of promise " + number + " was tried");
+        for (String section : sections.keySet()) {
+            if (section.equals("Terms") || section.startsWith("Promise ")) {
+                lookForUntried(section);
             }
         }
         System.out.println(checks + " answers by " + sentences + " sentences, " + wrong + " not as due");
         return wrong == 0;
+    }
+
+    private static void lookForUntried(String section) {
+        String said = sections.get(section);
+        BitSet tried = quoted.getOrDefault(section, new BitSet());
+        for (int from = tried.nextClearBit(0); from < said.length(); ) {
+            int to = tried.nextSetBit(from);
+            String rest = said.substring(from, to < 0 ? said.length() : to);
+            if (!rest.replaceAll("\\W", "").isEmpty()) {
+                wrong++;
+                System.out.println(section + ": not tried: " + rest.trim());
+            }
+            from = to < 0 ? said.length() : tried.nextClearBit(to);
+        }
     }
 }

@@ -10,6 +10,7 @@ final class ClimbBoundaries {
 
     static void run() {
         reaches();
+        treadable();
         firstStep();
         fromStepToStep();
         lastStep();
@@ -41,6 +42,28 @@ final class ClimbBoundaries {
             x.mend(i);
         }
         return x;
+    }
+
+    private static void treadable() {
+        Bench.terms("A CLIMB of a LODGER: a row of STEPS that he MAY TREAD,");
+        // 1 is as far from his RANK as GAP lets him; by 1 less, or BROKEN, it is passed over, and then there is none.
+        RankStairs x = Bench.told("iron 0 0;wood 20 29;iron 0 0;iron 0 0;lodger 2 0 0 3;gap 2;");
+        steps(x, 1, 3);
+        Bench.due(5, x.ways(0));
+        x.law(0, 1);
+        steps(x, 0, 2, 3);
+        Bench.due(1, x.ways(0));
+        x.law(0, 2);
+        x.wear(1, 30);
+        steps(x, 0, 2, 3);
+        x.wear(2, 30);
+        Bench.due(NONE, x.climb(0, 0));
+        Bench.due(0, x.ways(0));
+        // A landing is for all, but BROKEN for none.
+        x = Bench.told("landing 60 29;lodger 1 0 0 0;gap 0;");
+        steps(x, 0);
+        x.wear(0, 30);
+        Bench.due(NONE, x.climb(0, 0));
     }
 
     private static void firstStep() {
@@ -118,7 +141,8 @@ final class ClimbBoundaries {
     }
 
     private static void climbs() {
-        Bench.promise(17, "how many STEPS (what 0); 10 and k: its STEP k (0 to 9). BAD; NONE: there is none, not so many.");
+        Bench.promise(17, "The SHORTEST CLIMB of a LODGER: how many STEPS (what 0); 10 and k: its STEP k (0 to 9). "
+            + "BAD; NONE: there is none, not so many.");
         RankStairs x = Bench.told(TEN_STEPS + "lodger 1 0 0 9;lodger 1 0 0 8;");
         steps(x, 0, 1, 2, 3, 4, 5, 6, 7, 8, 9);
         Bench.due(9, x.climb(1, 0));

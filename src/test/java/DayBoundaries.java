@@ -20,8 +20,8 @@ final class DayBoundaries {
     }
 
     private static void wearByKind() {
-        Bench.terms("BY A CLIMB WEAR of each of its STEPS is more: wood 2, stone 1, iron 0, each 1 more with a LOAD of 5 or "
-            + "more; landing 0 ever");
+        Bench.terms("BY A CLIMB WEAR of each of its STEPS is more: wood 2, stone 1, iron 0, each 1 more with a LOAD "
+            + "of 5 or more; landing 0 ever");
         for (int load = 0; load <= 9; load++) {
             RankStairs x = Bench.told("wood 0 7;stone 0 7;iron 0 7;landing 0 7;wood 0 7;lodger 2 0 0 3;");
             x.law(0, 3);
@@ -146,8 +146,8 @@ final class DayBoundaries {
     }
 
     private static void ahead() {
-        Bench.promise(23, "Behind n DAYS (0 to 60): CLIMBS made in them (what 0), STEPS that are BROKEN then (1; bits); 10 and i: "
-            + "WEAR of STEP i. BAD.");
+        Bench.promise(23, "Behind n DAYS (0 to 60): CLIMBS made in them (what 0), STEPS that are BROKEN then (1; "
+            + "bits); 10 and i: WEAR of STEP i. BAD.");
         RankStairs x = Bench.told("stone 0 10;iron 0 0;lodger 1 0 0 1;lodger 1 0 0 0;hold 70;");
         Bench.due(0, x.ahead(0, 0));
         Bench.due(0, x.ahead(0, 1));
@@ -190,8 +190,8 @@ final class DayBoundaries {
     }
 
     private static void breaks() {
-        Bench.promise(24, "Behind how many DAYS (1 to 60) first a STEP more than now is BROKEN (what 0), the lowest such (1). "
-            + "BAD; NONE: behind none.");
+        Bench.promise(24, "Behind how many DAYS (1 to 60) first a STEP more than now is BROKEN (what 0), the lowest "
+            + "such (1). BAD; NONE: behind none.");
         RankStairs x = Bench.told("stone 0 29;lodger 1 0 0 0;");
         Bench.due(1, x.breaks(0));
         Bench.due(0, x.breaks(1));

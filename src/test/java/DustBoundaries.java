@@ -17,11 +17,13 @@ final class DustBoundaries {
         fits();
         fitsByTheMost();
         fitsOfAll();
+        fitsOfWhoStaysBelow();
         floors();
         drift();
         driftOfNobody();
         driftBySeed();
         driftOfMany();
+        driftByItself();
     }
 
     private static void seen() {
@@ -168,6 +170,24 @@ final class DustBoundaries {
         Bench.due(0, x.fits());
     }
 
+    private static void fitsOfWhoStaysBelow() {
+        Bench.terms("who has none stays below");
+        // To 0 and 3 he has none, to 1 and 2 one STEP each.
+        RankStairs x = Bench.told("wood 0 30;wood 0 0;stone 0 0;wood 0 30;lodger 3 0 0 0;");
+        int[][] dust = {{1, 0, 3, 13}, {1, 1, 0, 0}, {1, 2, 1, 2}, {2, 0, 3, 11}, {2, 1, 1, 4}, {0, 0, 4, 15},
+            {3, 0, 4, 15}};
+        for (int[] d : dust) {
+            x.see(d[0], d[1]);
+            Bench.due(d[2], x.fits());
+            Bench.due(d[3], x.floors(0));
+            x.forget(0);
+        }
+        x.see(1, 0);
+        x.see(2, 0);
+        Bench.due(2, x.fits());
+        Bench.due(9, x.floors(0));
+    }
+
     private static void floors() {
         Bench.promise(36, "FLOORS that a LODGER can have by those that FIT (bits). BAD.");
         RankStairs x = Bench.told("wood0 0;".repeat(10) + "lodger 4 0 0 9;lodger 4 0 0 9;");
@@ -237,7 +257,8 @@ final class DustBoundaries {
     }
 
     private static void driftBySeed() {
-        Bench.promise(37, "the seed becomes seed times 1103515245 and 12345; bits 16 to 30 of it modulo LODGERS: that one goes");
+        Bench.promise(37, "the seed becomes seed times 1103515245 and 12345; bits 16 to 30 of it modulo LODGERS: "
+            + "that one goes");
         int[] seeds = {0, 1, 2, 3, 4, 5, -1, -2, -3, -7, 65535, 65536, 1 << 30, LOW, LOW + 1, HIGH, HIGH - 1};
         for (int lodgers = 1; lodgers <= 4; lodgers++) {
             StringBuilder text = new StringBuilder("hold 2;");
@@ -261,7 +282,8 @@ final class DustBoundaries {
     }
 
     private static void driftOfMany() {
-        Bench.promise(37, "by his SHORTEST CLIMB, if there is one: how many did (what 0), STEPS that are BROKEN then (1; bits)");
+        Bench.promise(37, "by his SHORTEST CLIMB, if there is one: how many did (what 0), STEPS that are BROKEN "
+            + "then (1; bits)");
         // The second of three has none; of 60 turns those are counted that are the others'.
         RankStairs x = Bench.told("iron 0 0;iron 0 99;lodger 1 0 0 0;lodger 2 0 0 1;lodger 1 0 0 0;");
         for (int seed : new int[] {1, -1, LOW, HIGH}) {
@@ -276,5 +298,13 @@ final class DustBoundaries {
         Bench.due(99, x.step(1, 2));
         x = Bench.told("iron0 99;".repeat(10) + "lodger 1 0 0 0;");
         Bench.due(1023, x.drift(1, 60, 1));
+    }
+
+    private static void driftByItself() {
+        Bench.promise(37, "By itself,");
+        Twins.Story story = x -> Bench.tell(x, "wood 0 0;stone 0 0;lodger 1 0 9 1;lodger 1 0 0 1;hold 9;");
+        // From 0 the first goes three times, by 3 each: then 0 is BROKEN.
+        Twins.unchanged(3, story, x -> x.drift(0, 60, 0));
+        Twins.unchanged(1, story, x -> x.drift(0, 60, 1));
     }
 }

@@ -3,8 +3,8 @@ final class FaceBoundaries {
     private static final int BAD = Bench.BAD;
     private static final int LOW = Bench.LOW, HIGH = Bench.HIGH;
     private static final String ONE = "wood 12 3;lodger 2 1 4 0;";
-    private static final String TEN_STEPS = "wood9 0;stone9 0;iron9 0;landing9 0;wood0 0;wood0 0;wood0 0;wood0 0;wood0 0;"
-        + "iron60 99;";
+    private static final String TEN_STEPS = "wood9 0;stone9 0;iron9 0;landing9 0;wood0 0;wood0 0;wood0 0;wood0 0;"
+        + "wood0 0;iron60 99;";
     private static final String FOUR_LODGERS = "lodger1 0 0 0;lodger2 1 4 0;lodger3 2 5 9;lodger4 3 9 9;";
 
     private FaceBoundaries() {
@@ -91,8 +91,8 @@ final class FaceBoundaries {
     }
 
     private static void lodgers() {
-        Bench.promise(8, "Of a LODGER: 0 LEGS, 1 RANK, 2 LOAD, 3 FLOOR, 4 how far he REACHES, 5 STEPS that he MAY TREAD (bits). "
-            + "BAD.");
+        Bench.promise(8, "Of a LODGER: 0 LEGS, 1 RANK, 2 LOAD, 3 FLOOR, 4 how far he REACHES, 5 STEPS that he MAY "
+            + "TREAD (bits). BAD.");
         RankStairs x = Bench.told(TEN_STEPS + FOUR_LODGERS);
         // The last STEP is BROKEN; by GAP 1 RANKS 0, 1, 0, landing, 0 .. 0.
         int[][] want = {{1, 0, 0, 0, 1, 511}, {2, 1, 4, 0, 2, 511}, {3, 2, 5, 9, 2, 10}, {4, 3, 9, 9, 3, 8}};
@@ -116,8 +116,8 @@ final class FaceBoundaries {
     }
 
     private static void treads() {
-        Bench.terms("A LODGER MAY TREAD a STEP that is not BROKEN: a landing, or one of which RANK is no more than GAP above "
-            + "or below his.");
+        Bench.terms("A LODGER MAY TREAD a STEP that is not BROKEN: a landing, or one of which RANK is no more than "
+            + "GAP above or below his.");
         RankStairs x = Bench.told("wood 0 0;wood 10 0;wood 20 0;wood 30 0;landing 30 29;landing 0 30;lodger 1 0 0 0;");
         // By GAP, then by his RANK: the STEPS of RANKS 0 to 3; the landing that is whole is 16.
         int[][] near = {{1, 2, 4, 8}, {3, 7, 14, 12}, {7, 15, 15, 14}, {15, 15, 15, 15}};
@@ -147,8 +147,8 @@ final class FaceBoundaries {
     }
 
     private static void ranksOfSteps() {
-        Bench.terms("RANK of a STEP: wood: a tenth of its YEARS (down; 3 at most); stone: 1 more than wood of its YEARS "
-            + "(3 at most); iron 0; landing: as stone.");
+        Bench.terms("RANK of a STEP: wood: a tenth of its YEARS (down; 3 at most); stone: 1 more than wood of its "
+            + "YEARS (3 at most); iron 0; landing: as stone.");
         RankStairs x = Bench.told("wood 0 0;stone 0 0;iron 0 0;landing 0 0;");
         int[] years = {0, 9, 10, 19, 20, 29, 30, 39, 40, 59, 60};
         int[] wood = {0, 0, 1, 1, 2, 2, 3, 3, 3, 3, 3};
@@ -298,7 +298,8 @@ final class FaceBoundaries {
 
     private static void years() {
         Bench.promise(16, "All YEARS are 1 more (60 at most): how many STEPS have another RANK by it.");
-        RankStairs x = Bench.told("wood8 0;wood9 0;wood29 0;wood39 0;stone19 0;stone29 0;iron9 0;landing19 0;wood59 0;wood60 0;");
+        RankStairs x = Bench.told("wood8 0;wood9 0;wood29 0;wood39 0;stone19 0;stone29 0;iron9 0;landing19 0;"
+            + "wood59 0;wood60 0;");
         // Wood of 9 and 29, stone and landing of 19; those behind have RANK 3, or 0, before and after.
         Bench.due(4, x.year());
         int[] want = {9, 10, 30, 40, 20, 30, 10, 20, 60, 60};

@@ -8,7 +8,9 @@ import java.nio.file.Path;
 import java.util.ArrayList;
 import java.util.HashSet;
 import java.util.List;
+import java.util.Map;
 import java.util.Set;
+import java.util.TreeMap;
 import java.util.TreeSet;
 import java.util.regex.Matcher;
 import java.util.regex.Pattern;
@@ -41,6 +43,7 @@ public final class LanguageTest {
         words(code);
         classes();
         lengths(source);
+        depths(code);
         System.out.println(wrong == 0 ? "the program keeps to the language" : "the program leaves the language");
         if (wrong != 0) {
             System.exit(1);
@@ -121,6 +124,40 @@ public final class LanguageTest {
                 hold(c == RankStairs.class || !FACE.contains(" " + m.getName() + "("), "rule 1: " + m);
             }
         }
+    }
+
+    /** Calls by their names, so that two methods of one name count as one that makes the calls of both. */
+    private static void depths(String code) {
+        Map<String, Set<String>> calls = new TreeMap<>();
+        String method = "(?ms)^( {4}| {8})(?! )[\\w\\[\\] ]*?(\\w+)\\([^()]*\\) \\{$(.*?)^\\1\\}$";
+        Matcher methods = Pattern.compile(method).matcher(code);
+        while (methods.find()) {
+            Set<String> made = calls.computeIfAbsent(methods.group(2), k -> new TreeSet<>());
+            Matcher call = Pattern.compile("\\b(\\w+)\\(").matcher(methods.group(3));
+            while (call.find()) {
+                made.add(call.group(1));
+            }
+        }
+        hold(calls.size() > 80, "rule 11: too few methods are seen: " + calls.keySet());
+        for (String name : calls.keySet()) {
+            int depth = depth(name, calls, new HashSet<>());
+            hold(depth <= 8, "rule 11: calls go " + depth + " deep from " + name);
+        }
+    }
+
+    /** A method that stands open already is recursion, which counts once. */
+    private static int depth(String name, Map<String, Set<String>> calls, Set<String> open) {
+        int below = 0;
+        open.add(name);
+        for (String next : calls.getOrDefault(name, Set.of())) {
+            // A call of the library is one level more; words such as if and for are none.
+            boolean isCall = calls.containsKey(next) || next.matches("min|max|abs|bitCount|arraycopy|fill|\\w+Zeros");
+            if (isCall && !open.contains(next)) {
+                below = Math.max(below, depth(next, calls, open));
+            }
+        }
+        open.remove(name);
+        return below + 1;
     }
 
     /** A method begins on a line that ends in ") {" and ends on one with its brace at the same place. */

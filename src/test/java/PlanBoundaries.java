@@ -15,6 +15,7 @@ final class PlanBoundaries {
         best();
         bestOfSeveral();
         lodge();
+        lodgeByFewest();
         lodgeOfSeveral();
         odds();
         oddsOfKinds();
@@ -78,8 +79,8 @@ final class PlanBoundaries {
     }
 
     private static void holds() {
-        Bench.promise(28, "The least HOLD (1 to 99) by which no STEP is BROKEN behind any of n DAYS (0 to 60; now, too). BAD; "
-            + "NONE: by none.");
+        Bench.promise(28, "The least HOLD (1 to 99) by which no STEP is BROKEN behind any of n DAYS (0 to 60; now, "
+            + "too). BAD; NONE: by none.");
         RankStairs x = Bench.told("iron 0 0;iron 0 0;");
         Bench.due(1, x.hold(0));
         Bench.due(1, x.hold(60));
@@ -123,7 +124,8 @@ final class PlanBoundaries {
 
     private static void best() {
         Bench.promise(29, "The STEP to be mended by which most LODGERS have a CLIMB, more than now");
-        RankStairs x = Bench.told("iron 0 30;iron 0 0;iron 0 29;lodger 1 0 0 0;lodger 1 0 0 1;lodger 1 0 0 2;lodger 2 0 0 1;");
+        RankStairs x = Bench.told("iron 0 30;iron 0 0;iron 0 29;lodger 1 0 0 0;lodger 1 0 0 1;lodger 1 0 0 2;"
+            + "lodger 2 0 0 1;");
         Bench.due(8, x.homes());
         Bench.due(0, x.best(0));
         Bench.due(4, x.best(1));
@@ -166,7 +168,8 @@ final class PlanBoundaries {
 
     private static void lodge() {
         Bench.promise(30, "how many have (what 0), these STEPS (1); 10 and p: the FLOOR of a LODGER then");
-        RankStairs x = Bench.told("iron 0 0;iron 0 0;iron 0 0;iron 0 0;lodger 1 0 0 3;lodger 2 0 0 2;lodger 3 0 0 1;lodger 4 0 0 0;");
+        RankStairs x = Bench.told("iron 0 0;iron 0 0;iron 0 0;iron 0 0;lodger 1 0 0 3;lodger 2 0 0 2;lodger 3 0 0 1;"
+            + "lodger 4 0 0 0;");
         // Each at the FLOOR that is his LEGS up: one STEP each.
         Bench.due(4, x.lodge(0));
         Bench.due(4, x.lodge(1));
@@ -201,6 +204,26 @@ final class PlanBoundaries {
         Bench.due(BAD, x.lodge(10));
     }
 
+    private static void lodgeByFewest() {
+        Bench.promise(30, "FLOORS changed round among LODGERS so that most have a CLIMB, of these that by which all "
+            + "their SHORTEST ones have fewest STEPS together:");
+        // As they are 2 and 1 STEPS, the other way round 1 and 1.
+        RankStairs x = Bench.told("iron 0 0;iron 0 0;lodger 1 0 0 1;lodger 2 0 4 0;");
+        Bench.due(2, x.lodge(1));
+        Bench.due(0, x.lodge(10));
+        Bench.due(1, x.lodge(11));
+        // With a heavy LOAD it is 1 and 2 the other way round: no fewer, so they stay.
+        x.load(1, 5);
+        Bench.due(3, x.lodge(1));
+        Bench.due(1, x.lodge(10));
+        Bench.due(0, x.lodge(11));
+        // Who has none adds no STEPS.
+        x.wear(1, 30);
+        Bench.due(1, x.lodge(0));
+        Bench.due(1, x.lodge(1));
+        Bench.due(1, x.lodge(10));
+    }
+
     private static void lodgeOfSeveral() {
         Bench.promise(30, "of several the first by LODGERS, FLOORS by whose they are now. BAD.");
         // All are alike: as they are now, though by numbers of STEPS another would be first.
@@ -232,7 +255,8 @@ final class PlanBoundaries {
     private static void odds() {
         Bench.promise(31, "by v out of ten (0 to 10), by itself: that a LODGER has a CLIMB: 0, 1. BAD.");
         RankStairs x = Bench.told(TEN_STEPS + "lodger 1 0 0 9;lodger 4 0 0 3;");
-        long[] powers = {10000000000L, 3486784401L, 1073741824L, 282475249L, 60466176L, 9765625L, 1048576L, 59049L, 1024L, 1L, 0L};
+        long[] powers = {10000000000L, 3486784401L, 1073741824L, 282475249L, 60466176L, 9765625L, 1048576L, 59049L,
+            1024L, 1L, 0L};
         for (int v = 0; v <= 10; v++) {
             long whole = 10000000000L;
             for (long d = 2; d <= 5; d += 3) {
@@ -261,7 +285,8 @@ final class PlanBoundaries {
 
     private static void oddsOfKinds() {
         Bench.promise(31, "Each STEP but landings is out (as if BROKEN)");
-        RankStairs x = Bench.told("landing 0 29;stone 0 0;wood 0 0;landing 0 0;lodger 1 0 0 0;lodger 1 0 0 3;lodger 4 0 0 3;");
+        RankStairs x = Bench.told("landing 0 29;stone 0 0;wood 0 0;landing 0 0;lodger 1 0 0 0;lodger 1 0 0 3;"
+            + "lodger 4 0 0 3;");
         for (int v : new int[] {0, 5, 10}) {
             Bench.due(1, x.odds(v, 0, 0));
             Bench.due(1, x.odds(v, 0, 1));

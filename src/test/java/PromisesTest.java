@@ -149,6 +149,7 @@ public final class PromisesTest {
         due(11, put(x, ten + "lodger 1 0 0 9;"));
         due(1, x.ways(0));
         due(10, x.climb(0, 0));
+        x = new RankStairs();
         due(12, put(x, HOUSE));
         due(4, put(x, "lodger 1 0 0 0;lodger 1 0 0 0;hold 99;wood 60 99;"));
         due(-10 - 90, put(x, ten + "wood 1 1;"));

@@ -32,8 +32,8 @@ final class RefusalBoundaries {
 
     /** 5 STEPS, 3 LODGERS, 3 DAYS, an IMAGE, SEEN, SHEETS, a TAPE, a FAULT of a text and one of a read. */
     private static void lived(RankStairs x) {
-        Bench.tell(x, "wood 12 3;stone 5 10;landing 3 0;iron 40 2;wood 0 6;lodger 2 1 6 3;lodger 1 1 0 2;lodger 3 0 0 4;"
-            + "gap 2;hold 60;");
+        Bench.tell(x, "wood 12 3;stone 5 10;landing 3 0;iron 40 2;wood 0 6;lodger 2 1 6 3;lodger 1 1 0 2;"
+            + "lodger 3 0 0 4;gap 2;hold 60;");
         x.day(2);
         x.keep(0);
         x.day(1);
@@ -55,8 +55,8 @@ final class RefusalBoundaries {
     }
 
     private static void constants() {
-        Bench.terms("BAD -1 (a number is not as told, there is no such STEP, LODGER, IMAGE, SHEET), STATE -2 (as told), "
-            + "FULL -3, NONE -4 (there is none)");
+        Bench.terms("Answers: BAD -1 (a number is not as told, there is no such STEP, LODGER, IMAGE, SHEET), STATE "
+            + "-2 (as told), FULL -3, NONE -4 (there is none)");
         Bench.due(-1, RankStairs.BAD);
         Bench.due(-2, RankStairs.STATE);
         Bench.due(-3, RankStairs.FULL);

@@ -4,7 +4,8 @@ final class SheetBoundaries {
     private static final int LOW = Bench.LOW, HIGH = Bench.HIGH;
     private static final int NULL = 1, INDEX = 2, CAST = 3;
     /** Three LODGERS, each at a FLOOR of stone that he alone treads. */
-    private static final String HOUSE = "stone 0 0;stone 0 0;stone 0 0;lodger 1 0 0 0;lodger 2 0 0 1;lodger 3 0 0 2;hold 99;";
+    private static final String HOUSE = "stone 0 0;stone 0 0;stone 0 0;lodger 1 0 0 0;lodger 2 0 0 1;lodger 3 0 0 2;"
+        + "hold 99;";
 
     private SheetBoundaries() {
     }
@@ -19,6 +20,7 @@ final class SheetBoundaries {
         lays();
         lowestBits();
         reads();
+        badReads();
         readsOfMany();
         faultsOfReads();
         machineRefuses();
@@ -30,7 +32,8 @@ final class SheetBoundaries {
     }
 
     private static void keeps() {
-        Bench.promise(38, "IMAGE k (0, 1) is STEPS (YEARS, WEAR), LODGERS, GAP, HOLD, DAY: whether there was one (1, 0). BAD.");
+        Bench.promise(38, "IMAGE k (0, 1) is STEPS (YEARS, WEAR), LODGERS, GAP, HOLD, DAY: whether there was one "
+            + "(1, 0). BAD.");
         RankStairs x = new RankStairs();
         for (int k : new int[] {-1, 2, LOW, HIGH}) {
             Bench.due(BAD, x.keep(k));
@@ -124,7 +127,8 @@ final class SheetBoundaries {
 
     private static void sheets() {
         Bench.promise(40, "A SHEET is a new row of CELLS 0: 1. BAD: also n above 40; -10 - 4.");
-        Bench.terms("SHEETS 0 to 3 are rows of BYTES (lane 0), SHORTS (1), INTS (2) with 0 to 40 CELLS, or nothing (at first).");
+        Bench.terms("SHEETS 0 to 3 are rows of BYTES (lane 0), SHORTS (1), INTS (2) with 0 to 40 CELLS, or nothing "
+            + "(at first).");
         RankStairs x = new RankStairs();
         for (int k : new int[] {-1, 4, LOW, HIGH}) {
             Bench.due(BAD, x.sheet(k, 0, 1));
@@ -246,12 +250,6 @@ final class SheetBoundaries {
             Bench.due(21, x.step(0, 2));
             x.wear(0, 0);
         }
-        for (int k : new int[] {-1, 4, LOW, HIGH}) {
-            Bench.due(BAD, x.read(k, 2, 0, 0));
-        }
-        for (int lane : new int[] {-1, 3, LOW, HIGH}) {
-            Bench.due(BAD, x.read(1, lane, 0, 0));
-        }
         // From the first CELL and from the last; by the last 20 of 40.
         Bench.due(20, x.read(1, 2, 20, 20));
         Bench.due(0, x.torn());
@@ -261,6 +259,31 @@ final class SheetBoundaries {
         Bench.due(0, x.torn());
         Bench.due(40, x.step(0, 2));
         Bench.due(0, x.rule(4));
+    }
+
+    private static void badReads() {
+        Bench.promise(42, "BAD: k, lane, n;");
+        RankStairs x = Bench.told(HOUSE);
+        for (int k = 0; k < 4; k++) {
+            x.sheet(k, k % 3, 1);
+            Bench.due(1, x.read(k, k % 3, 0, 1));
+        }
+        for (int n : new int[] {0, 1}) {
+            for (int k : new int[] {-1, 4, LOW, HIGH}) {
+                Bench.due(BAD, x.read(k, 0, 0, n));
+            }
+            for (int lane : new int[] {-1, 3, LOW, HIGH}) {
+                Bench.due(BAD, x.read(0, lane, 0, n));
+            }
+        }
+        for (int n : new int[] {-1, 21, LOW, HIGH}) {
+            Bench.due(BAD, x.read(0, 0, 0, n));
+        }
+        Bench.due(4, x.count(5));
+        // f alone is nothing that is BAD.
+        for (int f : new int[] {-1, 1, LOW, HIGH}) {
+            Bench.due(0, x.read(0, 0, f, 1));
+        }
     }
 
     private static void readsOfMany() {
@@ -285,8 +308,8 @@ final class SheetBoundaries {
         x.sheet(1, 1, 2);
         x.sheet(2, 2, 0);
         int[][] reads = {{0, 0, 0, NULL}, {0, 2, -1, NULL}, {3, 1, HIGH, NULL}, {1, 0, 0, CAST}, {1, 2, 1, CAST},
-            {1, 0, 2, CAST}, {1, 2, -1, CAST}, {1, 1, 2, INDEX}, {1, 1, -1, INDEX}, {1, 1, LOW, INDEX}, {1, 1, HIGH, INDEX},
-            {2, 2, 0, INDEX}, {2, 0, 0, CAST}};
+            {1, 0, 2, CAST}, {1, 2, -1, CAST}, {1, 1, 2, INDEX}, {1, 1, -1, INDEX}, {1, 1, LOW, INDEX},
+            {1, 1, HIGH, INDEX}, {2, 2, 0, INDEX}, {2, 0, 0, CAST}};
         for (int[] r : reads) {
             for (int n : new int[] {1, 20}) {
                 Bench.due(1, x.read(1, 1, 0, 1));
@@ -397,7 +420,7 @@ final class SheetBoundaries {
     }
 
     private static void counts() {
-        Bench.promise(44, "0 SEEN, 1 IMAGES, 2 bytes on THE TAPE");
+        Bench.promise(44, "How many: 0 SEEN, 1 IMAGES, 2 bytes on THE TAPE");
         RankStairs x = new RankStairs();
         int[] none = {0, 0, 0, NONE, 0, 0, 0};
         for (int what = 0; what <= 6; what++) {

@@ -18,6 +18,9 @@ final class TextBoundaries {
         cutTape();
         places();
         linesOfText();
+        linesInAnyOrder();
+        whatLinesTell();
+        lodgersTold();
         toldStays();
         latestFault();
         signs();
@@ -170,10 +173,69 @@ final class TextBoundaries {
         Bench.due(0, x.rule(1));
     }
 
+    private static void linesInAnyOrder() {
+        Bench.terms("text: { line }");
+        Bench.taken(0, "");
+        String[] lines = {"wood 1 2;", "lodger 4 3 9 0;", "gap 0;", "hold 7;"};
+        for (int first = 0; first < 4; first++) {
+            StringBuilder text = new StringBuilder();
+            for (int k = 0; k < 4; k++) {
+                text.append(lines[(first + k) % 4]);
+            }
+            RankStairs x = Bench.told(text.toString());
+            int[] rules = {1, 1, 0, 7, 0};
+            for (int what = 0; what <= 4; what++) {
+                Bench.due(rules[what], x.rule(what));
+            }
+        }
+    }
+
+    private static void whatLinesTell() {
+        Bench.terms("wood, stone, iron, landing: a STEP more: YEARS, WEAR. lodger: a LODGER more: LEGS, RANK, LOAD, "
+            + "FLOOR (0 to 9). gap: GAP. hold: HOLD.");
+        StringBuilder text = new StringBuilder("gap 3;hold 98;");
+        for (int i = 0; i < 10; i++) {
+            text.append(KINDS[i % 4]).append(i).append(' ').append(90 + i).append(';');
+        }
+        RankStairs x = Bench.told(text + "lodger4 3 8 9;lodger1 2 9 0;");
+        Bench.due(3, x.rule(2));
+        Bench.due(98, x.rule(3));
+        for (int i = 0; i < 10; i++) {
+            Bench.due(i % 4, x.step(i, 0));
+            Bench.due(i, x.step(i, 1));
+            Bench.due(90 + i, x.step(i, 2));
+        }
+        int[][] lodgers = {{4, 3, 8, 9}, {1, 2, 9, 0}};
+        for (int p = 0; p < 2; p++) {
+            for (int what = 0; what <= 3; what++) {
+                Bench.due(lodgers[p][what], x.lodger(p, what));
+            }
+        }
+        Bench.taken(11, TEN_STEPS + "lodger 1 0 0 9;");
+        Bench.faulty(3, 93, TEN_STEPS + "lodger 1 0 0 10;");
+    }
+
+    private static void lodgersTold() {
+        Bench.terms("each with LEGS (1 to 4), a RANK (0 to 3), a LOAD (0 to 9), a FLOOR: a STEP.");
+        RankStairs x = Bench.told("iron 0 0;iron 0 0;lodger 1 0 0 0;lodger 4 3 9 1;");
+        int[][] ends = {{1, 0, 0, 0}, {4, 3, 9, 1}};
+        for (int p = 0; p < 2; p++) {
+            for (int what = 0; what <= 3; what++) {
+                Bench.due(ends[p][what], x.lodger(p, what));
+            }
+        }
+        Bench.faulty(3, 25, "iron 0 0;iron 0 0;lodger 0 0 0 0;");
+        Bench.faulty(3, 25, "iron 0 0;iron 0 0;lodger 5 3 9 1;");
+        Bench.faulty(3, 27, "iron 0 0;iron 0 0;lodger 4 4 9 1;");
+        Bench.faulty(3, 29, "iron 0 0;iron 0 0;lodger 4 3 10 1;");
+        Bench.faulty(6, 33, "iron 0 0;iron 0 0;lodger 4 3 9 2;");
+    }
+
     private static void toldStays() {
         Bench.promise(4, "-10 less the place of its FAULT: that which was told stays.");
         RankStairs x = Bench.told("wood 7 3;lodger 2 3 4 0;gap 2;hold 9;");
-        String[] refused = {"?", " ?", "stone 1 1;lodger 1 1 1 0;gap 0;hold 1;?", "stone 1 1;lodger 1 1 1 1;gap 0;hold 1;"};
+        String[] refused = {"?", " ?", "stone 1 1;lodger 1 1 1 0;gap 0;hold 1;?",
+            "stone 1 1;lodger 1 1 1 1;gap 0;hold 1;"};
         int[] answers = {-10, -11, -48, -48};
         for (int k = 0; k < refused.length; k++) {
             Bench.due(answers[k], Bench.tell(x, refused[k]));
@@ -271,7 +333,8 @@ final class TextBoundaries {
     }
 
     private static void numbersOfLines() {
-        Bench.terms("line: wood N N ; | stone N N ; | iron N N ; | landing N N ; | lodger N N N N ; | gap N ; | hold N ;");
+        Bench.terms("line: wood N N ; | stone N N ; | iron N N ; | landing N N ; | lodger N N N N ; | gap N ; | "
+            + "hold N ;");
         for (int kind = 0; kind < 4; kind++) {
             int name = KINDS[kind].length();
             Bench.faulty(2, name + 3, KINDS[kind] + " 1 ;");
