@@ -51,14 +51,15 @@ final class Twins {
         }
     }
 
+    /** What is told outright comes first: what is asked behind it could hide what the call changed. */
     private List<String> ask() {
-        for (int k = 0; k < ASKS.size(); k++) {
-            note("ask " + k, ASKS.get(k).on(x));
-        }
+        askHouse("now");
         for (int what = 0; what <= 6; what++) {
             note("count " + what, x.count(what));
         }
-        askHouse("now");
+        for (int k = 0; k < ASKS.size(); k++) {
+            note("ask " + k, ASKS.get(k).on(x));
+        }
         askDust();
         askSheets();
         for (int k = 0; k < 2; k++) {
