@@ -186,6 +186,15 @@ final class DustBoundaries {
         x.see(2, 0);
         Bench.due(2, x.fits());
         Bench.due(9, x.floors(0));
+        // To 0 he has one, to 1 none: 0 is worn, or he stays below.
+        x = Bench.told("wood 0 0;wood 0 30;lodger 2 0 0 0;");
+        int[] floors = {2, 0, 1};
+        for (int more = 0; more <= 2; more++) {
+            x.see(0, more);
+            Bench.due(Integer.bitCount(floors[more]), x.fits());
+            Bench.due(floors[more], x.floors(0));
+            x.forget(0);
+        }
     }
 
     private static void floors() {
