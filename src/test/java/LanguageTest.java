@@ -18,6 +18,7 @@ import java.util.regex.Pattern;
 /** What of the rules of LANGUAGE.md, and of the document's face, can be seen by a look at the program. */
 public final class LanguageTest {
     private static final String SOURCE = "src/main/java/RankStairs.java";
+    private static final Path DOCUMENT = Path.of("../shared/DOC.md");
     private static final String FACE = "int feed(int) int end(int) int text() int fault() int rule(int) int step(int,int)"
         + " int lodger(int,int) int age(int,int) int wear(int,int) int mend(int) int rank(int,int) int load(int,int)"
         + " int move(int,int) int law(int,int) int year() int climb(int,int) int ways(int) int smooth(int,int)"
@@ -40,6 +41,7 @@ public final class LanguageTest {
         String source = Files.readString(Path.of(SOURCE));
         String code = source.replaceAll("(?s)/\\*.*?\\*/", " ").replaceAll("//[^\n]*", " ").replaceAll("\"[^\"]*\"", "\"\"");
         face();
+        documentsFace();
         words(code);
         classes();
         lengths(source);
@@ -80,6 +82,20 @@ public final class LanguageTest {
         Constructor<?>[] made = c.getDeclaredConstructors();
         hold(made.length == 1 && made[0].getParameterCount() == 0 && Modifier.isPublic(made[0].getModifiers()),
             "the face: the constructor");
+    }
+
+    /** The face that is tested is the one that the document has. */
+    private static void documentsFace() throws IOException {
+        if (!Files.exists(DOCUMENT)) {
+            System.out.println("no document at " + DOCUMENT + ": its face is not looked up");
+            return;
+        }
+        Set<String> told = new TreeSet<>();
+        Matcher call = Pattern.compile("(?m)^    public (int|long) (\\w+\\(.*\\));$").matcher(Files.readString(DOCUMENT));
+        while (call.find()) {
+            told.add(call.group(1) + " " + call.group(2).replaceAll("int \\w+", "int").replace(", ", ","));
+        }
+        hold(told.equals(new TreeSet<>(List.of(FACE.split("(?<=\\)) ")))), "the document's face: " + told);
     }
 
     private static void words(String code) {
